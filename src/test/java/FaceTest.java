@@ -1,0 +1,71 @@
+import java.lang.reflect.Constructor;
+import java.lang.reflect.Field;
+import java.lang.reflect.Method;
+import java.lang.reflect.Modifier;
+import java.util.Set;
+import java.util.TreeSet;
+
+/** The class shows the document's face and nothing else. */
+public final class FaceTest {
+    private static final Set<String> FACE = Set.of(
+            "int BAD = -1", "int EMPTY = -2", "int FOREIGN = -3", "int FULL = -4", "int LIMIT = -5",
+            "new(int)",
+            "int spawn(int,int,boolean)", "boolean kill(int)", "boolean mode(int,boolean)",
+            "int make(int,int,int,int)", "int store(int,int,int,int)", "int load(int,int,int,int)",
+            "boolean move(int,int,int)", "int begin(int)", "int freeze(int,int)", "int lookup(int,int,int)",
+            "int collect(int)", "int state(int)", "int pages(int)", "int objects(int)", "int items(int)",
+            "int use(int)", "int room(int)", "boolean shares(int,int)", "int where(int,int)", "int tag(int,int)");
+
+    private FaceTest() {
+    }
+
+    private static String types(Class<?>[] parameters) {
+        StringBuilder text = new StringBuilder();
+        for (Class<?> parameter : parameters) {
+            text.append(text.length() == 0 ? "" : ",").append(parameter);
+        }
+        return "(" + text + ")";
+    }
+
+    private static Set<String> visibleMembers() throws IllegalAccessException {
+        Set<String> seen = new TreeSet<>();
+        for (Field field : ProcessHeaps.class.getDeclaredFields()) {
+            if (!Modifier.isPrivate(field.getModifiers())) {
+                seen.add(field.getType() + " " + field.getName() + " = " + field.get(null));
+            }
+        }
+        for (Constructor<?> constructor : ProcessHeaps.class.getDeclaredConstructors()) {
+            if (!Modifier.isPrivate(constructor.getModifiers())) {
+                seen.add("new" + types(constructor.getParameterTypes()));
+            }
+        }
+        for (Method method : ProcessHeaps.class.getDeclaredMethods()) {
+            if (!Modifier.isPrivate(method.getModifiers())) {
+                seen.add(method.getReturnType() + " " + method.getName() + types(method.getParameterTypes()));
+            }
+        }
+        return seen;
+    }
+
+    private static void checkModifiers(Check check) {
+        int modifiers = ProcessHeaps.class.getModifiers();
+        check.holds("the class is public and final", Modifier.isPublic(modifiers) && Modifier.isFinal(modifiers));
+        for (Class<?> inside : ProcessHeaps.class.getDeclaredClasses()) {
+            check.holds(inside + " is static", Modifier.isStatic(inside.getModifiers()));
+            check.holds(inside + " is not public", !Modifier.isPublic(inside.getModifiers()));
+        }
+    }
+
+    public static void main(String[] args) throws IllegalAccessException {
+        Check check = new Check();
+        Set<String> seen = visibleMembers();
+        for (String member : FACE) {
+            check.holds("there is " + member, seen.contains(member));
+        }
+        for (String member : seen) {
+            check.holds("the document has " + member, FACE.contains(member));
+        }
+        checkModifiers(check);
+        check.finish();
+    }
+}
