@@ -370,12 +370,12 @@ public final class ProcessHeaps {
     private void dropChargesOfDead() {
         for (int h = FIRST_SHARED; h < HEAPS; h++) {
             if (!memory.hasItemInto(KERNEL, h)) {
-                dropChargesOfDead(h);
+                endPaymentOfDead(h);
             }
         }
     }
 
-    private void dropChargesOfDead(int heap) {
+    private void endPaymentOfDead(int heap) {
         for (int p = 0; p < made; p++) {
             if (!processes[p].isLiving()) {
                 processes[p].dropCharge(heap);
@@ -388,7 +388,7 @@ public final class ProcessHeaps {
             if (isFrozen(h) && !isSharedByLiving(h) && !memory.hasItemInto(KERNEL, h)) {
                 heads[h] = null;
                 memory.freeUnreached(h);
-                dropChargesOfDead(h);
+                endPaymentOfDead(h);
             }
         }
     }
@@ -652,7 +652,7 @@ public final class ProcessHeaps {
             }
         }
 
-        /** To be called after the merge of the dead heap: what both heaps named of each other is the kernel's now. */
+        /** The dead heap is merged by now, so an object of the kernel's may be one that was named across. */
         void handItemsToKernel(int dead) {
             for (int i = 0; i < objects.size(); i++) {
                 HeapObject object = objects.get(i);

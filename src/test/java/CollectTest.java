@@ -42,6 +42,28 @@ public final class CollectTest {
         CHECK.due("14: on one page", x.pages(0), 1);
     }
 
+    private static void denseChain() {
+        ProcessHeaps x = new ProcessHeaps(8);
+        x.make(0, 0, 1, 0);
+        x.move(0, 1, 0);
+        x.move(0, 3, 0);
+        for (int i = 1; i < 60; i++) {
+            x.make(0, 2, 1, i);
+            for (int f = 0; f < 3; f++) {
+                x.store(0, 1, f, 2);
+            }
+            x.move(0, 1, 2);
+        }
+        x.move(0, 1, -1);
+        x.move(0, 2, -1);
+        CHECK.due("12: 60 objects, each named three times over", x.collect(0), 0);
+        CHECK.due("15: all are there", x.objects(0), 60);
+        x.move(0, 0, -1);
+        CHECK.due("12: a second register holds them", x.collect(0), 0);
+        x.move(0, 3, -1);
+        CHECK.due("12: all are freed", x.collect(0), 60);
+    }
+
     private static void pagesAreGivenBack() {
         ProcessHeaps x = new ProcessHeaps(8);
         x.make(0, 0, 16, 1);
@@ -127,30 +149,29 @@ public final class CollectTest {
         CHECK.due("12: both objects are freed", x.collect(KERNEL), 2);
     }
 
-    /** The kernel has pages with 4, the own heap with 6, the built heap with 8 free cells, the built one being the oldest. */
+    /** The own page of process 1 is the oldest, with 6 free cells; then its built one, with 8; then the kernel's, with 4. */
     private static ProcessHeaps withThreeHeaps() {
         ProcessHeaps x = new ProcessHeaps(8);
         x.spawn(0, 6, false);
+        x.make(1, 0, 10, 1);
         x.begin(1);
-        x.make(1, 0, 8, 1);
+        x.make(1, 1, 8, 2);
         x.mode(0, true);
-        x.make(0, 0, 12, 2);
-        x.freeze(1, 0);
-        x.make(1, 1, 10, 3);
-        x.begin(1);
-        x.make(1, 2, 8, 4);
+        x.make(0, 0, 12, 3);
         return x;
     }
 
     private static void mergedPagesComeBehind() {
         ProcessHeaps x = withThreeHeaps();
         x.kill(1);
-        CHECK.due("14: the built heap is gone", x.pages(10), 0);
+        CHECK.due("14: the built heap is gone", x.pages(9) + x.objects(9), 0);
+        CHECK.due("11: it cannot be looked up", x.lookup(0, 9, 1), BAD);
         CHECK.due("14: the kernel has three pages", x.pages(KERNEL), 3);
-        x.make(0, 1, 4, 5);
-        x.make(0, 2, 4, 6);
-        CHECK.due("5: 4 and 4 left 8 cells in the third page", x.make(0, 3, 8, 7), 0);
-        CHECK.due("14: still three pages", x.pages(KERNEL), 3);
+        CHECK.due("15: and three objects", x.objects(KERNEL), 3);
+        x.make(0, 1, 4, 4);
+        x.make(0, 2, 6, 5);
+        x.make(0, 3, 8, 6);
+        CHECK.due("5: 4 fit in the kernel's page, then 6 in the own one, then 8 in the built one", x.pages(KERNEL), 3);
         CHECK.due("17: the dead one's node pays for two", x.use(1), 2);
         CHECK.due("12: the dead one's objects are freed", x.collect(KERNEL), 2);
         CHECK.due("17: its node pays for the pages that others use", x.use(1), 2);
@@ -161,21 +182,23 @@ public final class CollectTest {
         CHECK.due("17: then it ceases to exist", x.use(1), BAD);
     }
 
-    private static void builtHeapComesBehindTheOwn() {
-        ProcessHeaps x = new ProcessHeaps(8);
+    private static void mergedPagesKeepTheirOrder() {
+        ProcessHeaps x = new ProcessHeaps(12);
         x.spawn(0, 6, false);
-        x.begin(1);
-        x.make(1, 0, 6, 1);
-        x.make(1, 0, 16, 1);
-        x.mode(1, true);
-        x.mode(1, false);
-        x.make(1, 1, 10, 2);
         x.mode(0, true);
+        int[] sizes = {14, 12, 8};
+        for (int i = 0; i < sizes.length; i++) {
+            x.make(1, i, sizes[i], i);
+            x.mode(0, false);
+            x.make(0, i, 16, i);
+            x.mode(0, true);
+        }
         x.kill(1);
-        CHECK.due("14: two full pages", x.pages(KERNEL), 2);
-        x.make(0, 0, 1, 3);
-        CHECK.due("14: there is a third one now", x.pages(KERNEL), 3);
-        CHECK.due("10: the built heap is not there any more", x.lookup(0, 9, 0), BAD);
+        x.make(0, 0, 2, 5);
+        x.make(0, 1, 4, 6);
+        x.make(0, 2, 8, 7);
+        CHECK.due("5: 2 fit in the first page, then 4 in the second, then 8 in the third", x.pages(KERNEL), 3);
+        CHECK.due("14: the other heap's pages are as they were", x.pages(0), 3);
     }
 
     private static void itemsForTheSameObject() {
@@ -191,6 +214,10 @@ public final class CollectTest {
             x.kill(p);
         }
         CHECK.due("16: one for each object", x.items(KERNEL), 1);
+        CHECK.due("16: none of heap 0 yet", x.items(0), 0);
+        x.make(0, 1, 1, 3);
+        x.store(0, 1, 0, 0);
+        CHECK.due("16: heap 0 has one of its own for it", x.items(0), 1);
         CHECK.due("17: both nodes pay for the frozen heap", x.use(1) + x.use(2), 4);
         CHECK.due("12: both objects are freed", x.collect(KERNEL), 2);
         CHECK.due("17: node 1 has ceased", x.use(1), BAD);
@@ -200,13 +227,14 @@ public final class CollectTest {
     public static void main(String[] args) {
         wrongInputs();
         chainsAndRings();
+        denseChain();
         pagesAreGivenBack();
         itemsAreRoots();
         itemsAreCountedByObject();
         ringThroughTheKernel();
         registersOfTheDeadHoldNothing();
         mergedPagesComeBehind();
-        builtHeapComesBehindTheOwn();
+        mergedPagesKeepTheirOrder();
         itemsForTheSameObject();
         CHECK.finish();
     }

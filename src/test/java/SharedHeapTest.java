@@ -181,6 +181,7 @@ public final class SharedHeapTest {
         CHECK.due("19: a register keeps it", x.shares(2, 9), true);
         x.kill(2);
         CHECK.due("19: death ends it", x.shares(2, 9), false);
+        CHECK.due("17: a register that was held does not go on paying", x.use(2), 1);
         CHECK.due("19: the other one shares it still", x.shares(1, 9), true);
     }
 
