@@ -47,25 +47,38 @@ public final class FaceTest {
         return seen;
     }
 
-    private static void checkModifiers(Check check) {
+    @Sentence(promise = {1, 2, 3, 4, 5, 6, 7, 8, 9, 10, 11, 12, 13, 14, 15, 16, 17, 18, 19, 20, 21}, words = "The public face")
+    static void membersAreThoseOfTheDocument(Check check) throws IllegalAccessException {
+        Set<String> seen = visibleMembers();
+        for (String member : FACE) {
+            check.due("there is " + member, seen.contains(member), true);
+        }
+        for (String member : seen) {
+            check.due("the document has " + member, FACE.contains(member), true);
+        }
+    }
+
+    @Sentence(promise = {2, 5, 6, 20}, words = "The constants: `BAD = -1`")
+    static void constantsHaveTheirValues(Check check) {
+        check.due("BAD", ProcessHeaps.BAD, -1);
+        check.due("EMPTY", ProcessHeaps.EMPTY, -2);
+        check.due("FOREIGN", ProcessHeaps.FOREIGN, -3);
+        check.due("FULL", ProcessHeaps.FULL, -4);
+        check.due("LIMIT", ProcessHeaps.LIMIT, -5);
+    }
+
+    @Sentence(promise = 1, words = "public final class ProcessHeaps {")
+    static void classIsPublicAndFinal(Check check) {
         int modifiers = ProcessHeaps.class.getModifiers();
-        check.holds("the class is public and final", Modifier.isPublic(modifiers) && Modifier.isFinal(modifiers));
+        check.due("the class is public", Modifier.isPublic(modifiers), true);
+        check.due("the class is final", Modifier.isFinal(modifiers), true);
         for (Class<?> inside : ProcessHeaps.class.getDeclaredClasses()) {
-            check.holds(inside + " is static", Modifier.isStatic(inside.getModifiers()));
-            check.holds(inside + " is not public", !Modifier.isPublic(inside.getModifiers()));
+            check.due(inside + " is static", Modifier.isStatic(inside.getModifiers()), true);
+            check.due(inside + " is public", Modifier.isPublic(inside.getModifiers()), false);
         }
     }
 
     public static void main(String[] args) throws IllegalAccessException {
-        Check check = new Check();
-        Set<String> seen = visibleMembers();
-        for (String member : FACE) {
-            check.holds("there is " + member, seen.contains(member));
-        }
-        for (String member : seen) {
-            check.holds("the document has " + member, FACE.contains(member));
-        }
-        checkModifiers(check);
-        check.finish();
+        Tests.run(FaceTest.class);
     }
 }
