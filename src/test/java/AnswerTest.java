@@ -11,7 +11,8 @@ public final class AnswerTest {
     private AnswerTest() {
     }
 
-    @Sentence(promise = {2, 3, 4, 5, 6, 7, 8, 9, 10, 11, 12}, words = "A call that answers BAD, EMPTY, FOREIGN, FULL or false changes nothing")
+    @Sentence(promise = {2, 3, 4, 5, 6, 7, 8, 9, 10, 11, 12},
+            words = "A call that answers BAD, EMPTY, FOREIGN, FULL or false changes nothing")
     static void refusedCallChangesNothingHoweverOften(Check check) {
         check.same("of each call one that is refused, three times", Scenes.BUSY.then(x -> {
             for (int i = 0; i < 3; i++) {
@@ -68,7 +69,8 @@ public final class AnswerTest {
         check.refused("spawn by process 1", scene, x -> x.spawn(1, 1, true), LIMIT);
     }
 
-    @Sentence(promise = {14, 15, 16, 17, 18, 19, 20, 21}, words = "Nothing is promised beyond the answers and state changes described above")
+    @Sentence(promise = {14, 15, 16, 17, 18, 19, 20, 21},
+            words = "Nothing is promised beyond the answers and state changes described above")
     static void looksChangeNothing(Check check) {
         check.same("all that only look", Scenes.BUSY.then(Looks::shown), Scenes.BUSY);
     }

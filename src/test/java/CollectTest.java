@@ -33,7 +33,8 @@ public final class CollectTest {
         }
     }
 
-    @Sentence(promise = 12, words = "The objects of h that cannot be reached from them through fields of objects of h are freed; they exist no more.")
+    @Sentence(promise = 12,
+            words = "The objects of h that cannot be reached from them through fields of objects of h are freed; they exist no more.")
     static void otherHeapsAreNotCollected(Check check) {
         for (int h : new int[] {0, 1, 3, 4, KERNEL}) {
             ProcessHeaps x = Scenes.BUSY.make();
@@ -185,7 +186,8 @@ public final class CollectTest {
         return x;
     }
 
-    @Sentence(promise = 16, words = "Heap h has an EXIT ITEM for an object x of another heap from when x is stored in a field of an object of h.")
+    @Sentence(promise = 16,
+            words = "Heap h has an EXIT ITEM for an object x of another heap from when x is stored in a field of an object of h.")
     static void itemFromTheStoreOn(Check check) {
         ProcessHeaps x = withItem();
         check.due("heap 1 has one", x.items(1), 1);
@@ -319,7 +321,8 @@ public final class CollectTest {
         check.refused("items(13)", Scenes.BUSY, x -> x.items(13), 0);
     }
 
-    @Sentence(promise = {12, 17}, words = "for the kernel heap, nodes of dead processes cease to pay for a frozen heap if the kernel heap has no exit item for any object of it.")
+    @Sentence(promise = {12, 17},
+            words = "for the kernel heap, nodes of dead processes cease to pay for a frozen heap if the kernel heap has no exit item for any object of it.")
     static void deadNodesCeaseToPay(Check check) {
         ProcessHeaps x = Scenes.BUSY.make();
         check.due("node 2 pays for heap 9, 2 pages, and for its own page", x.use(2), 3);
@@ -334,7 +337,8 @@ public final class CollectTest {
         check.due("node 1 pays for it as before", x.use(1), 8);
     }
 
-    @Sentence(promise = {12, 19}, words = "then, for an own heap, the process ceases to share what it does not use, as said; for the kernel heap")
+    @Sentence(promise = {12, 19},
+            words = "then, for an own heap, the process ceases to share what it does not use, as said; for the kernel heap")
     static void collectionOfTheKernelEndsNoSharing(Check check) {
         ProcessHeaps x = Scenes.withFrozen(8, 1).make();
         x.move(1, 0, -1);

@@ -38,7 +38,8 @@ public final class DeathTest {
         return x;
     }
 
-    @Sentence(promise = {3, 17}, words = "Its node goes on paying for those frozen heaps for an object of which its own heap has an exit item, for no other one")
+    @Sentence(promise = {3, 17},
+            words = "Its node goes on paying for those frozen heaps for an object of which its own heap has an exit item, for no other one")
     static void nodeGoesOnPaying(Check check) {
         ProcessHeaps x = withThreeFrozen();
         check.due("use(1) in life", x.use(1), 7);
@@ -76,7 +77,8 @@ public final class DeathTest {
         check.due("what process 0 made is held", x.collect(KERNEL), 2);
     }
 
-    @Sentence(promise = {3, 9, 10, 11, 14, 15}, words = "so is the shared heap that it is building, if there is one (which is GONE then)")
+    @Sentence(promise = {3, 9, 10, 11, 14, 15},
+            words = "so is the shared heap that it is building, if there is one (which is GONE then)")
     static void builtHeapIsMerged(Check check) {
         Scene dead = ((Scene) DeathTest::withThreeHeaps).then(x -> x.kill(1));
         check.due("objects(9)", dead.make().objects(9), 0);
@@ -103,7 +105,8 @@ public final class DeathTest {
         return x;
     }
 
-    @Sentence(promise = {3, 5}, words = "their objects are the kernel's now, their pages come behind the kernel's in their order (those of the own heap first)")
+    @Sentence(promise = {3, 5},
+            words = "their objects are the kernel's now, their pages come behind the kernel's in their order (those of the own heap first)")
     static void mergedPagesComeBehind(Check check) {
         ProcessHeaps x = withThreeHeaps();
         x.kill(1);
@@ -225,7 +228,8 @@ public final class DeathTest {
         check.due("all are freed", x.collect(KERNEL), 4);
     }
 
-    @Sentence(promise = {3, 16}, words = "those of the own heap for objects of frozen heaps are the kernel heap's now (one for each object).")
+    @Sentence(promise = {3, 16},
+            words = "those of the own heap for objects of frozen heaps are the kernel heap's now (one for each object).")
     static void itemsForFrozenObjectsAreTheKernels(Check check) {
         ProcessHeaps x = withThreeFrozen();
         check.due("items(1)", x.items(1), 2);

@@ -165,7 +165,8 @@ public final class FieldTest {
         check.due("a DOOMED process is in kernel mode", x.store(4, 0, 0, 0), 0);
     }
 
-    @Sentence(promise = 6, words = "or if q holds an object that may not be named there: an object of the own heap may name those of the own heap, of the kernel heap and of frozen heaps")
+    @Sentence(promise = 6,
+            words = "or if q holds an object that may not be named there: an object of the own heap may name those of the own heap, of the kernel heap and of frozen heaps")
     static void ownObjectMayName(Check check) {
         for (boolean kernel : BOTH) {
             dueStored(check, busyInMode(kernel), IN_OWN, IN_OWN);
@@ -211,7 +212,8 @@ public final class FieldTest {
      * p stores into objects that p can reach, but for frozen ones, into which nobody stores.
      */
 
-    @Sentence(promise = 6, words = "When several of these answers would do, the one that stands first in the method's comment is given.")
+    @Sentence(promise = 6,
+            words = "When several of these answers would do, the one that stands first in the method's comment is given.")
     static void storeGivesTheFirstAnswer(Check check) {
         check.refused("BAD of q before EMPTY", Scenes.BUSY, x -> x.store(0, 3, 0, 4), BAD);
         check.refused("BAD of q before EMPTY, at the other end", Scenes.BUSY, x -> x.store(0, 3, 0, -1), BAD);
@@ -220,6 +222,11 @@ public final class FieldTest {
         check.refused("BAD of q before FOREIGN", Scenes.BUSY, x -> x.store(1, IN_FROZEN, 0, -1), BAD);
         check.refused("BAD of f before FOREIGN", Scenes.BUSY, x -> x.store(1, IN_KERNEL, 3, 0), BAD);
     }
+
+    /*
+     * EMPTY and FOREIGN never would do both, neither of store nor of load: where the register is empty there is no
+     * object that may not be changed, that may not name another one, or that has a field.
+     */
 
     @Sentence(promise = 7, words = "Register r of process p gets what field f of the object in register q holds (also empty): 0.")
     static void loadGetsTheField(Check check) {
@@ -301,7 +308,8 @@ public final class FieldTest {
         }
     }
 
-    @Sentence(promise = 7, words = "When several of these answers would do, the one that stands first in the method's comment is given.")
+    @Sentence(promise = 7,
+            words = "When several of these answers would do, the one that stands first in the method's comment is given.")
     static void loadGivesTheFirstAnswer(Check check) {
         check.refused("BAD of r before EMPTY", Scenes.BUSY, x -> x.load(0, 4, 3, 0), BAD);
         check.refused("BAD of r before EMPTY, at the other end", Scenes.BUSY, x -> x.load(0, -1, 3, 0), BAD);
@@ -317,7 +325,8 @@ public final class FieldTest {
      * After a death there are kernel objects that name frozen ones, but nobody can reach those of a dead process.
      * The class asks for both cases all the same. What can be asked is that the sharing lasts as long as the field:
      */
-    @Sentence(promise = 7, words = "FOREIGN if the field names an object of the own heap of another process, or of a frozen heap that p does not share.")
+    @Sentence(promise = 7,
+            words = "FOREIGN if the field names an object of the own heap of another process, or of a frozen heap that p does not share.")
     static void loadOfFrozenObjectAfterCollections(Check check) {
         ProcessHeaps x = Scenes.BUSY.make();
         x.move(1, IN_FROZEN, -1);

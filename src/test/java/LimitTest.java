@@ -15,17 +15,19 @@ public final class LimitTest {
     @Sentence(promise = {17, 18}, words = "USE of node p; BAD if it does not exist.")
     static void noSuchNode(Check check) {
         for (int node : Scenes.outside(0, 7)) {
-            due(check, Scenes.EIGHT.make(), node, BAD, BAD);
+            check.refused("use(" + node + ")", Scenes.EIGHT, x -> x.use(node), BAD);
+            check.refused("room(" + node + ")", Scenes.EIGHT, x -> x.room(node), BAD);
         }
-        for (int node = 5; node < 8; node++) {
-            due(check, Scenes.BUSY.make(), node, BAD, BAD);
+        for (int node : new int[] {5, 6, 7}) {
+            check.refused("use(" + node + ") of one that was not made", Scenes.BUSY, x -> x.use(node), BAD);
+            check.refused("room(" + node + ") of one that was not made", Scenes.BUSY, x -> x.room(node), BAD);
         }
-        ProcessHeaps x = Scenes.EIGHT.make();
+        Scene ceased = Scenes.BUSY.then(x -> x.mode(4, false));
+        check.refused("use(4) of a dead one that pays for nothing", ceased, x -> x.use(4), BAD);
+        check.refused("room(4) of a dead one that pays for nothing", ceased, x -> x.room(4), BAD);
         for (int node = 1; node < 8; node++) {
-            due(check, x, node, 1, 16);
+            due(check, Scenes.EIGHT.make(), node, 1, 16);
         }
-        check.refused("use(8)", Scenes.BUSY, y -> y.use(8), BAD);
-        check.refused("room(5)", Scenes.BUSY, y -> y.room(5), BAD);
     }
 
     @Sentence(promise = {17, 18}, words = "the node of process 0 is the root, its LIMIT is the number of pages of the store")
@@ -39,7 +41,8 @@ public final class LimitTest {
         }
     }
 
-    @Sentence(promise = {2, 17, 18}, words = "Every process has a NODE (numbered like the process), with a LIMIT, and it is HARD or SOFT")
+    @Sentence(promise = {2, 17, 18},
+            words = "Every process has a NODE (numbered like the process), with a LIMIT, and it is HARD or SOFT")
     static void everyProcessHasANode(Check check) {
         ProcessHeaps x = new ProcessHeaps(24);
         for (int p = 1; p < 8; p++) {
@@ -264,7 +267,8 @@ public final class LimitTest {
         }
     }
 
-    @Sentence(promise = {17, 18}, words = "(When the last child of a node of a dead process ceases to exist it can cease with it, and so on upwards.)")
+    @Sentence(promise = {17, 18},
+            words = "(When the last child of a node of a dead process ceases to exist it can cease with it, and so on upwards.)")
     static void nodesCeaseUpwards(Check check) {
         ProcessHeaps x = new ProcessHeaps(10);
         x.spawn(0, 5, true);
@@ -288,7 +292,8 @@ public final class LimitTest {
         due(check, x, 0, 0, 10);
     }
 
-    @Sentence(promise = {17, 18}, words = "(When the last child of a node of a dead process ceases to exist it can cease with it, and so on upwards.)")
+    @Sentence(promise = {17, 18},
+            words = "(When the last child of a node of a dead process ceases to exist it can cease with it, and so on upwards.)")
     static void nodesCeaseNoFurtherThanOneThatLives(Check check) {
         ProcessHeaps x = new ProcessHeaps(10);
         x.spawn(0, 5, false);

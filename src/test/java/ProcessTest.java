@@ -192,7 +192,8 @@ public final class ProcessTest {
         check.due("the garbage of the kernel stays", x.objects(KERNEL), 1);
     }
 
-    @Sentence(promise = 2, words = "When several of these answers would do, the one that stands first in the method's comment is given.")
+    @Sentence(promise = 2,
+            words = "When several of these answers would do, the one that stands first in the method's comment is given.")
     static void spawnGivesTheFirstAnswer(Check check) {
         check.refused("BAD before FULL", Scenes.EIGHT, x -> x.spawn(8, 1, false), BAD);
         check.refused("BAD before FULL and LIMIT", Scenes.EIGHT, x -> x.spawn(0, 25, true), BAD);
@@ -238,7 +239,8 @@ public final class ProcessTest {
         check.refused("kill(3) once more", Scenes.BUSY.then(x -> x.kill(3)), x -> x.kill(3));
     }
 
-    @Sentence(promise = 3, words = "Kills process p: true; false if p is not a living process, is 0, or is DOOMED. In user mode it dies at once")
+    @Sentence(promise = 3,
+            words = "Kills process p: true; false if p is not a living process, is 0, or is DOOMED. In user mode it dies at once")
     static void killInUserModeIsDeathAtOnce(Check check) {
         ProcessHeaps x = Scenes.BUSY.make();
         check.due("kill(1)", x.kill(1), true);
@@ -276,7 +278,8 @@ public final class ProcessTest {
         check.due("use", x.use(4), 2);
     }
 
-    @Sentence(promise = {2, 3, 4, 5, 6, 7, 8, 9, 10, 11, 12, 19, 20, 21}, words = "A process is LIVING from when it is made until it dies")
+    @Sentence(promise = {2, 3, 4, 5, 6, 7, 8, 9, 10, 11, 12, 19, 20, 21},
+            words = "A process is LIVING from when it is made until it dies")
     static void deadOneDoesNothing(Check check) {
         check.refused("spawn", Scenes.BUSY, x -> x.spawn(2, 1, false), BAD);
         check.refused("kill", Scenes.BUSY, x -> x.kill(2));

@@ -75,7 +75,8 @@ public final class SharedHeapTest {
         check.refused("BAD of a dead one stands before FULL", four, x -> x.begin(2), BAD);
     }
 
-    @Sentence(promise = 10, words = "The shared heap that process p is building is frozen, the object in register r is its HEAD, and p shares it: its number.")
+    @Sentence(promise = 10,
+            words = "The shared heap that process p is building is frozen, the object in register r is its HEAD, and p shares it: its number.")
     static void freezeMakesTheHead(Check check) {
         for (int r = 0; r < 4; r++) {
             ProcessHeaps x = Scenes.EIGHT.make();
@@ -129,7 +130,8 @@ public final class SharedHeapTest {
         check.due("in kernel mode", Scenes.BUSY.then(x -> x.mode(1, true)).make().freeze(1, 3), 10);
     }
 
-    @Sentence(promise = {10, 17}, words = "(the one that paid for them while it was built pays for them in this way then, no more as single pages)")
+    @Sentence(promise = {10, 17},
+            words = "(the one that paid for them while it was built pays for them in this way then, no more as single pages)")
     static void freezeChangesTheWayOfPaying(Check check) {
         ProcessHeaps x = new ProcessHeaps(8);
         x.spawn(0, 6, false);
@@ -309,7 +311,8 @@ public final class SharedHeapTest {
         check.due("the garbage is freed", x.objects(3), 2);
     }
 
-    @Sentence(promise = 11, words = "When several of these answers would do, the one that stands first in the method's comment is given.")
+    @Sentence(promise = 11,
+            words = "When several of these answers would do, the one that stands first in the method's comment is given.")
     static void lookupGivesTheFirstAnswer(Check check) {
         Scene scene = withThreePages(2).then(x -> Scenes.makeGarbage(x, 3, 1, 16));
         check.refused("BAD of the register before LIMIT: there is no collection", scene, x -> x.lookup(3, 9, 4), BAD);
@@ -363,7 +366,8 @@ public final class SharedHeapTest {
         return x;
     }
 
-    @Sentence(promise = 19, words = "until a collection of its own heap after which that heap has no exit item for an object of the frozen heap and no register of the process holds one")
+    @Sentence(promise = 19,
+            words = "until a collection of its own heap after which that heap has no exit item for an object of the frozen heap and no register of the process holds one")
     static void registerKeepsSharing(Check check) {
         for (int r = 0; r < 4; r++) {
             ProcessHeaps x = withInnerObject();
@@ -400,7 +404,8 @@ public final class SharedHeapTest {
         check.due("and the payment", x.use(2), 1);
     }
 
-    @Sentence(promise = {12, 19}, words = "Then exit items are lost as said; then, for an own heap, the process ceases to share what it does not use, as said")
+    @Sentence(promise = {12, 19},
+            words = "Then exit items are lost as said; then, for an own heap, the process ceases to share what it does not use, as said")
     static void sharingEndsWithGarbage(Check check) {
         ProcessHeaps x = withInnerObject();
         x.make(2, 1, 1, 5);
@@ -411,7 +416,8 @@ public final class SharedHeapTest {
         check.due("the exit item is lost first, so the sharing ends at once", x.shares(2, 9), false);
     }
 
-    @Sentence(promise = 19, words = "until it dies. The node of a living process pays for exactly the frozen heaps that it shares.")
+    @Sentence(promise = 19,
+            words = "until it dies. The node of a living process pays for exactly the frozen heaps that it shares.")
     static void sharingEndsWithDeath(Check check) {
         ProcessHeaps x = withInnerObject();
         check.due("before", x.shares(2, 9), true);
@@ -439,7 +445,8 @@ public final class SharedHeapTest {
         check.due("nobody pays for it", x.use(0), 0);
     }
 
-    @Sentence(promise = {3, 14, 15, 17}, words = "A frozen heap that no living process shares, and for no object of which the kernel heap has an exit item, is GONE at once")
+    @Sentence(promise = {3, 14, 15, 17},
+            words = "A frozen heap that no living process shares, and for no object of which the kernel heap has an exit item, is GONE at once")
     static void goneWithADeath(Check check) {
         ProcessHeaps x = withInnerObject();
         x.kill(1);

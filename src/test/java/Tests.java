@@ -5,10 +5,14 @@ import java.util.Comparator;
 
 /** Runs the methods of a class that bear a sentence, each with a Check of its own. */
 final class Tests {
+    /** Far above what any test class needs, so that only a call that does not end comes there. */
+    private static final long MILLISECONDS = 300_000;
+
     private Tests() {
     }
 
     static void run(Class<?> tests) throws IllegalAccessException {
+        failIfACallDoesNotEnd();
         Method[] methods = tests.getDeclaredMethods();
         Arrays.sort(methods, Comparator.comparing(Method::getName));
         int held = 0;
@@ -26,6 +30,20 @@ final class Tests {
         if (broken != 0 || held == 0) {
             System.exit(1);
         }
+    }
+
+    private static void failIfACallDoesNotEnd() {
+        Thread guard = new Thread(() -> {
+            try {
+                Thread.sleep(MILLISECONDS);
+                System.out.println("a call does not end");
+            } catch (InterruptedException interrupted) {
+                System.out.println("the guard was interrupted");
+            }
+            Runtime.getRuntime().halt(1);
+        });
+        guard.setDaemon(true);
+        guard.start();
     }
 
     private static boolean takesCheck(Method method) {
