@@ -20,10 +20,18 @@ final class Looks {
             String one = look.apply(got.make());
             String other = look.apply(want.make());
             if (!one.equals(other)) {
-                return "left is" + one + ", due is" + other;
+                return firstDifference(one.split("\n"), other.split("\n"));
             }
         }
         return null;
+    }
+
+    private static String firstDifference(String[] got, String[] want) {
+        int i = 0;
+        while (i < got.length - 1 && i < want.length - 1 && got[i].equals(want[i])) {
+            i++;
+        }
+        return "left is" + got[i] + ", due is" + want[i];
     }
 
     private static List<Function<ProcessHeaps, String>> all() {
@@ -49,11 +57,11 @@ final class Looks {
         return looks;
     }
 
-    /** The answers of all calls that only look. */
+    /** The answers of all calls that only look, in a line for each process and heap. */
     static String shown(ProcessHeaps x) {
         StringBuilder text = new StringBuilder();
         for (int p = 0; p < PROCESSES; p++) {
-            text.append(" process ").append(p).append(": ").append(x.state(p));
+            text.append("\n process ").append(p).append(": ").append(x.state(p));
             text.append(" use ").append(x.use(p)).append(" room ").append(x.room(p));
             appendRegisters(text, x, p);
             for (int h = 9; h < 13; h++) {
@@ -61,7 +69,7 @@ final class Looks {
             }
         }
         for (int h = 0; h < 13; h++) {
-            text.append(" heap ").append(h).append(": ").append(x.pages(h)).append(' ').append(x.objects(h));
+            text.append("\n heap ").append(h).append(": ").append(x.pages(h)).append(' ').append(x.objects(h));
             text.append(' ').append(x.items(h));
         }
         return text.toString();
