@@ -101,7 +101,7 @@ public final class AnswerTest {
         check.due("state", x.state(1), 1);
     }
 
-    public static void main(String[] args) throws IllegalAccessException {
+    public static void main(String[] args) throws Exception {
         Tests.run(AnswerTest.class);
     }
 }

@@ -401,7 +401,7 @@ public final class CollectTest {
      * process's, and since nobody else can reach these, the first collection of the kernel heap frees them all.
      */
 
-    public static void main(String[] args) throws IllegalAccessException {
+    public static void main(String[] args) throws Exception {
         Tests.run(CollectTest.class);
     }
 }

@@ -324,7 +324,7 @@ public final class DeathTest {
         check.due("use(1) with the hard one", x.use(1), 3);
     }
 
-    public static void main(String[] args) throws IllegalAccessException {
+    public static void main(String[] args) throws Exception {
         Tests.run(DeathTest.class);
     }
 }

@@ -78,7 +78,7 @@ public final class FaceTest {
         }
     }
 
-    public static void main(String[] args) throws IllegalAccessException {
+    public static void main(String[] args) throws Exception {
         Tests.run(FaceTest.class);
     }
 }

@@ -406,7 +406,7 @@ public final class FieldTest {
         }
     }
 
-    public static void main(String[] args) throws IllegalAccessException {
+    public static void main(String[] args) throws Exception {
         Tests.run(FieldTest.class);
     }
 }

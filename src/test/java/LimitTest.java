@@ -1,3 +1,5 @@
+import java.util.function.ToIntBiFunction;
+
 /** Promises 17 and 18: use and room; what a node pays for, when it can pay and when it exists. */
 public final class LimitTest {
     private static final int BAD = ProcessHeaps.BAD;
@@ -12,19 +14,30 @@ public final class LimitTest {
         check.due("room(" + node + ")", x.room(node), room);
     }
 
-    @Sentence(promise = {17, 18}, words = "USE of node p; BAD if it does not exist.")
-    static void noSuchNode(Check check) {
+    @Sentence(promise = 17, words = "USE of node p; BAD if it does not exist.")
+    static void useOfNoSuchNode(Check check) {
+        badForNoSuchNode(check, "use", ProcessHeaps::use);
+    }
+
+    @Sentence(promise = 18, words = "The most pages more that node p can pay; BAD if it does not exist.")
+    static void roomOfNoSuchNode(Check check) {
+        badForNoSuchNode(check, "room", ProcessHeaps::room);
+    }
+
+    private static void badForNoSuchNode(Check check, String name, ToIntBiFunction<ProcessHeaps, Integer> look) {
         for (int node : Scenes.outside(0, 7)) {
-            check.refused("use(" + node + ")", Scenes.EIGHT, x -> x.use(node), BAD);
-            check.refused("room(" + node + ")", Scenes.EIGHT, x -> x.room(node), BAD);
+            check.refused(name + "(" + node + ")", Scenes.EIGHT, x -> look.applyAsInt(x, node), BAD);
         }
         for (int node : new int[] {5, 6, 7}) {
-            check.refused("use(" + node + ") of one that was not made", Scenes.BUSY, x -> x.use(node), BAD);
-            check.refused("room(" + node + ") of one that was not made", Scenes.BUSY, x -> x.room(node), BAD);
+            check.refused(name + "(" + node + ") of one that was not made", Scenes.BUSY, x -> look.applyAsInt(x, node), BAD);
         }
         Scene ceased = Scenes.BUSY.then(x -> x.mode(4, false));
-        check.refused("use(4) of a dead one that pays for nothing", ceased, x -> x.use(4), BAD);
-        check.refused("room(4) of a dead one that pays for nothing", ceased, x -> x.room(4), BAD);
+        check.refused(name + "(4) of a dead one that pays for nothing", ceased, x -> look.applyAsInt(x, 4), BAD);
+    }
+
+    @Sentence(promise = {17, 18}, words = "Every process has a NODE (numbered like the process)")
+    static void nodesOfAllEight(Check check) {
+        due(check, Scenes.EIGHT.make(), 0, 8, 16);
         for (int node = 1; node < 8; node++) {
             due(check, Scenes.EIGHT.make(), node, 1, 16);
         }
@@ -357,7 +370,7 @@ public final class LimitTest {
      * collection of the kernel heap that could free that object loses the exit item as well.
      */
 
-    public static void main(String[] args) throws IllegalAccessException {
+    public static void main(String[] args) throws Exception {
         Tests.run(LimitTest.class);
     }
 }

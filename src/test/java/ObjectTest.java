@@ -676,7 +676,7 @@ public final class ObjectTest {
         check.refused("tag(1, 4)", Scenes.BUSY, x -> x.tag(1, 4), 0);
     }
 
-    public static void main(String[] args) throws IllegalAccessException {
+    public static void main(String[] args) throws Exception {
         Tests.run(ObjectTest.class);
     }
 }

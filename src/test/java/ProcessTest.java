@@ -396,7 +396,7 @@ public final class ProcessTest {
         }
     }
 
-    public static void main(String[] args) throws IllegalAccessException {
+    public static void main(String[] args) throws Exception {
         Tests.run(ProcessTest.class);
     }
 }

@@ -159,7 +159,7 @@ public final class RandomRunsTest {
         }
     }
 
-    public static void main(String[] args) throws IllegalAccessException {
+    public static void main(String[] args) throws Exception {
         Tests.run(RandomRunsTest.class);
     }
 }

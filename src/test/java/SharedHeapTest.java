@@ -502,7 +502,7 @@ public final class SharedHeapTest {
      * cannot end the heap that is looked up: p does not share it then, so others or the kernel keep it.
      */
 
-    public static void main(String[] args) throws IllegalAccessException {
+    public static void main(String[] args) throws Exception {
         Tests.run(SharedHeapTest.class);
     }
 }

@@ -1,5 +1,8 @@
+import java.io.IOException;
 import java.lang.reflect.InvocationTargetException;
 import java.lang.reflect.Method;
+import java.nio.file.Files;
+import java.nio.file.Path;
 import java.util.Arrays;
 import java.util.Comparator;
 
@@ -11,15 +14,16 @@ final class Tests {
     private Tests() {
     }
 
-    static void run(Class<?> tests) throws IllegalAccessException {
+    static void run(Class<?> tests) throws IllegalAccessException, IOException {
         failIfACallDoesNotEnd();
+        String documents = words("../shared/DOC.md") + words("../shared/LANGUAGE.md");
         Method[] methods = tests.getDeclaredMethods();
         Arrays.sort(methods, Comparator.comparing(Method::getName));
         int held = 0;
         int broken = 0;
         for (Method method : methods) {
             if (takesCheck(method)) {
-                if (holds(method)) {
+                if (holds(method, documents)) {
                     held++;
                 } else {
                     broken++;
@@ -46,11 +50,16 @@ final class Tests {
         guard.start();
     }
 
+    /** The text of a file in one line, since its sentences go over the ends of lines. */
+    private static String words(String file) throws IOException {
+        return Files.readString(Path.of(file)).replaceAll("\\s+", " ");
+    }
+
     private static boolean takesCheck(Method method) {
         return Arrays.equals(method.getParameterTypes(), new Class<?>[] {Check.class});
     }
 
-    private static boolean holds(Method method) throws IllegalAccessException {
+    private static boolean holds(Method method, String documents) throws IllegalAccessException {
         Check check = new Check();
         try {
             method.invoke(null, check);
@@ -60,6 +69,8 @@ final class Tests {
         Sentence sentence = method.getAnnotation(Sentence.class);
         if (sentence == null) {
             check.fail("the test names no sentence");
+        } else if (!documents.contains(sentence.words())) {
+            check.fail("these words do not stand in the document");
         }
         if (check.isPassed()) {
             return true;
